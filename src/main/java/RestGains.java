@@ -6,7 +6,7 @@
  * never leave the first places, so the same sums serve every order.
  *
  * All fractions of one kind share what is below (a determinant that is at most some 9,000), so the
- * work is done in whole numbers; with states up to 1,000,000 nothing passes some 10 to the 18th.
+ * work is done in whole numbers; with states up to 1,000,000 nothing passes some 10 to the 15th.
  */
 public final class RestGains {
     public static final long NONE = -10000000000001L, UNKNOWN = -10000000000002L, OUTSIDE = -10000000000003L, STATE = -10000000000004L, FULL = -10000000000005L;

@@ -2,19 +2,8 @@ import java.util.function.Consumer;
 import java.util.function.ToLongFunction;
 
 /** For each promise: ordinary inputs, the edges that the document names, and wrong inputs. */
-public final class PromiseTests {
-    private static final long NONE = -10000000000001L;
-    private static final long UNKNOWN = -10000000000002L;
-    private static final long OUTSIDE = -10000000000003L;
-    private static final long STATE = -10000000000004L;
-    private static final long FULL = -10000000000005L;
-
-    private static final String SHIFT = "2;1,1,0,1;0,1;1,0";
-    private static final String THREE = "3;1,2,0,0,1,2,2,0,1;0,0,2;1,1,0";
-    private static final String LONGEST = "3;-1,-1,-1,-1,-1,-1,-1,-1,-1;-2,-2,-2;-1,-2,-1";
+public final class PromiseTests extends Help {
     private static final int[] WILD = {Integer.MIN_VALUE, -1000, -1, 0, 1, 2, 3, 9, 16, 1000, Integer.MAX_VALUE};
-
-    private static int wrong = 0;
 
     public static void main(String[] args) {
         promise01NewObject();
@@ -38,93 +27,15 @@ public final class PromiseTests {
         promise19Digest();
         refusalsChangeNothing();
         nothingThrows();
-        System.out.println(wrong == 0 ? "all promises hold" : wrong + " answers are not as due");
-        if (wrong != 0) {
-            System.exit(1);
-        }
+        end("all promises hold");
     }
 
     // ---- helps
-
-    private static void due(String call, long got, long want) {
-        if (got != want) {
-            wrong++;
-            System.out.println(call + " answered " + got + ", due is " + want);
-        }
-    }
-
-    private static RestGains write(RestGains x, String text) {
-        for (int i = 0; i < text.length(); i++) {
-            x.letter(text.charAt(i));
-        }
-        return x;
-    }
-
-    private static RestGains written(String text) {
-        return write(new RestGains(), text);
-    }
-
-    private static RestGains planted(String text, int... start) {
-        RestGains x = written(text);
-        due("plant of " + text, x.plant(), text.charAt(0) - '0');
-        for (int place = 0; place < start.length; place++) {
-            x.start(place, start[place]);
-        }
-        return x;
-    }
 
     private static void unchanged(String call, RestGains x, ToLongFunction<RestGains> refused, long want) {
         long before = x.digest();
         due(call, refused.applyAsLong(x), want);
         due("digest behind " + call, x.digest(), before);
-    }
-
-    private static void row(String name, long[] got, long... want) {
-        for (int i = 0; i < want.length; i++) {
-            due(name + " " + i, got[i], want[i]);
-        }
-    }
-
-    /** Above, below, above, below .. of the gains. */
-    private static long[] gains(RestGains x, boolean watcher, int order) {
-        long[] all = new long[2 * order];
-        for (int i = 0; i < all.length; i++) {
-            all[i] = x.gain(watcher, i / 2, i % 2);
-        }
-        return all;
-    }
-
-    private static long[] after(RestGains x, boolean watcher, int ticks, int order) {
-        long[] all = new long[2 * order];
-        for (int i = 0; i < all.length; i++) {
-            all[i] = x.after(watcher, ticks, i / 2, i % 2);
-        }
-        return all;
-    }
-
-    private static long[] plan(RestGains x) {
-        long[] all = new long[7];
-        all[0] = x.plan(0);
-        for (int i = 1; i < all.length; i++) {
-            all[i] = x.plan(9 + i);
-        }
-        return all;
-    }
-
-    private static long[] counts(RestGains x) {
-        long[] all = new long[5];
-        for (int i = 0; i < all.length; i++) {
-            all[i] = x.count(i);
-        }
-        return all;
-    }
-
-    private static long fold(long... numbers) {
-        long h = 1721;
-        for (long number : numbers) {
-            h = 31 * h + number;
-        }
-        return h;
     }
 
     // ---- the promises
@@ -630,8 +541,7 @@ public final class PromiseTests {
         try {
             calls.accept(x);
         } catch (RuntimeException thrown) {
-            wrong++;
-            System.out.println("a call threw " + thrown);
+            due("a call threw " + thrown + ": this", 0, 1);
         }
     }
 }

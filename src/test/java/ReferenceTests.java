@@ -7,61 +7,52 @@ import java.util.Random;
  * Random runs of calls, each answer held against a slow model that goes by the document's words:
  * fractions without a bound, elimination, powers of tables, and every plan tried in turn.
  */
-public final class ReferenceTests {
-    private static int wrong = 0;
-
+public final class ReferenceTests extends Help {
     public static void main(String[] args) {
         for (int seed = 0; seed < 1500 && wrong < 20; seed++) {
             new Run(seed).go();
         }
         farStarts();
+        greatestNumbers();
         everyPage();
-        System.out.println(wrong == 0 ? "all runs are as the model says" : wrong + " answers are not as due");
-        if (wrong != 0) {
-            System.exit(1);
-        }
+        end("all runs are as the model says");
     }
 
-    private static void due(String call, long got, long want) {
-        if (got != want) {
-            wrong++;
-            System.out.println(call + " answered " + got + ", due is " + want);
-        }
-    }
-
-    /** The greatest states and the most crooked plants: nothing may wrap around. */
+    /** The greatest states and crooked plants: nothing may wrap around. */
     private static void farStarts() {
         Random random = new Random(77);
         for (int round = 0; round < 3000 && wrong < 20; round++) {
-            RestGains x = new RestGains();
-            Model m = new Model();
-            for (char c : "3;2,0,0,0,2,0,0,0,2;1,1,1;0,0,0".toCharArray()) {
-                x.letter(c);
-                m.letter(c);
-            }
-            x.plant();
-            m.plant();
+            Run run = new Run(round);
+            run.plant("3;2,0,0,0,2,0,0,0,2;1,1,1;0,0,0");
             for (int place = 0; place < 3; place++) {
                 int v = random.nextInt(41) - 20;
-                x.start(place, v);
-                m.start(place, v);
+                run.same("far start", run.x.start(place, v), run.m.start(place, v));
             }
             for (int tick = 0; tick < 20; tick++) {
-                int input = random.nextInt(3) - 1;
-                due("far tick", x.tick(input), m.tick(input));
+                run.tick(random.nextInt(3) - 1);
             }
+            int[] cells = new int[15];
             for (int what = 0; what < 15; what++) {
-                int v = random.nextInt(4) == 0 ? random.nextInt(5) - 2 : random.nextBoolean() ? 2 : -2;
-                x.alter(what, v);
-                m.alter(what, v);
+                cells[what] = random.nextInt(4) == 0 ? random.nextInt(5) - 2 : random.nextBoolean() ? 2 : -2;
             }
-            due("far digest", x.digest(), m.digest());
-            for (int i = 0; i < 5 * 3 * 2; i++) {
-                int ticks = i / 6;
-                int place = i / 2 % 3;
-                due("far brought", x.after(false, ticks, place, i % 2), m.after(false, ticks, place, i % 2));
-                due("far missed", x.after(true, ticks, place, i % 2), m.after(true, ticks, place, i % 2));
-                due("far input", x.input(ticks, i % 2), m.input(ticks, i % 2));
+            run.alterAll(cells);
+            run.sameWay();
+        }
+    }
+
+    /** Of all plants, those with the greatest numbers on the way, from each corner of what START can be. */
+    private static void greatestNumbers() {
+        int[] brought = {2, 2, -2, -2, 2, -2, -2, -2, -2, -2, 2, -2, -2, 2, -2};
+        int[] missed = {2, -2, -2, 2, 2, -2, -2, -2, -2, -2, 2, -2, -2, 2, -2};
+        for (int corner = 0; corner < 8; corner++) {
+            for (int[] cells : new int[][] {brought, missed}) {
+                Run run = new Run(corner);
+                run.plant("3;2,0,0,0,2,0,0,0,2;" + (1 - (corner & 2)) + "," + (corner > 3 ? -1 : 1) + "," + (1 - 2 * (corner & 1)) + ";1,2,2");
+                for (int bit = 19; bit >= 0; bit--) {
+                    run.tick(1000000 >> bit & 1);
+                }
+                run.alterAll(cells);
+                run.sameWay();
             }
         }
     }
@@ -106,7 +97,36 @@ public final class ReferenceTests {
             same("digest()", x.digest(), m.digest());
         }
 
-        private void same(String call, long got, long want) {
+        void plant(String text) {
+            for (char c : text.toCharArray()) {
+                same("letter " + (int) c, x.letter(c), m.letter(c));
+            }
+            same("plant of " + text, x.plant(), m.plant());
+        }
+
+        void tick(int input) {
+            same("tick " + input, x.tick(input), m.tick(input));
+        }
+
+        void alterAll(int[] cells) {
+            for (int what = 0; what < 15; what++) {
+                same("alter " + what + " " + cells[what], x.alter(what, cells[what]), m.alter(what, cells[what]));
+            }
+        }
+
+        /** BROUGHT, MISSED and the inputs, at each tick and place. */
+        void sameWay() {
+            same("digest", x.digest(), m.digest());
+            for (int i = 0; i < 5 * 3 * 2; i++) {
+                int ticks = i / 6;
+                int place = i / 2 % 3;
+                same("brought", x.after(false, ticks, place, i % 2), m.after(false, ticks, place, i % 2));
+                same("missed", x.after(true, ticks, place, i % 2), m.after(true, ticks, place, i % 2));
+                same("input", x.input(ticks, i % 2), m.input(ticks, i % 2));
+            }
+        }
+
+        void same(String call, long got, long want) {
             calls++;
             due("run " + seed + ", call " + calls + ": " + call, got, want);
         }
