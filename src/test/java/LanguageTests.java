@@ -18,6 +18,10 @@ public final class LanguageTests {
         "->", "::", "\\bimport\\b", "\\bpackage\\b", "\\bprotected\\b", "Exact\\b", "\\bSystem\\.(?!arraycopy)", "\\bstatic\\s*\\{", "\\bvar\\b",
         "\\btoString\\b", "\\bhashCode\\b", "[^\\x00-\\x7f]"};
 
+    private static final Set<Class<?>> CONSTANTS = Set.of(int.class, long.class, boolean.class, char.class, String.class,
+        int[].class, long[].class, char[].class, byte[].class);
+    private static final String LIBRARY = "(Math|Integer|Long)\\.(abs|max|min|compare|floorDiv|floorMod|bitCount)|System\\.arraycopy|Arrays\\.(copyOf|copyOfRange|fill)";
+
     private static int wrong = 0;
 
     public static void main(String[] args) throws IOException {
@@ -26,11 +30,12 @@ public final class LanguageTests {
         for (Class<?> inside : RestGains.class.getDeclaredClasses()) {
             check(Modifier.isStatic(inside.getModifiers()) && !Modifier.isPublic(inside.getModifiers()), inside + " is static and not public");
             statics(inside);
-            check(inside.getDeclaredFields().length <= 25, inside + " has few fields");
             for (Method method : inside.getDeclaredMethods()) {
                 check(!isFaceName(method.getName()), method + " bears no name of the face");
+                check(method.getParameterCount() <= 7, method + " takes at most seven");
             }
         }
+        check(RestGains.class.getDeclaredClasses().length < 12, "at most twelve classes");
         source(Files.readString(Path.of("src/main/java/RestGains.java")));
         System.out.println(wrong == 0 ? "the face and the rules are kept" : wrong + " rules are broken");
         if (wrong != 0) {
@@ -85,17 +90,26 @@ public final class LanguageTests {
         check(constants.equals(Set.of("NONE", "UNKNOWN", "OUTSIDE", "STATE", "FULL")), "the constants are " + constants);
     }
 
+    /** Static fields are constants; of the others there are few. */
     private static void statics(Class<?> type) {
+        int fields = 0;
         for (Field field : type.getDeclaredFields()) {
             int is = field.getModifiers();
             check(!Modifier.isStatic(is) || Modifier.isFinal(is), field + " is final");
+            check(!Modifier.isStatic(is) || CONSTANTS.contains(field.getType()), field + " is a constant");
+            fields += Modifier.isStatic(is) ? 0 : 1;
         }
+        check(fields <= 20, type + " has few fields");
     }
 
     private static void source(String text) {
         String code = text.replaceAll("(?s)/\\*.*?\\*/", "").replaceAll("//[^\n]*", "");
         for (String word : FORBIDDEN) {
             check(!Pattern.compile(word).matcher(code).find(), "no " + word);
+        }
+        Matcher library = Pattern.compile("\\b[A-Z]\\w*[a-z]\\w*\\.\\w+").matcher(code);
+        while (library.find()) {
+            check(library.group().matches(LIBRARY), library.group() + " is in the library");
         }
         Matcher method = Pattern.compile("(?m)^( +)[^\\n;=]*\\([^\\n;]*\\) \\{\\n(?:(?!\\1\\})[^\\n]*\\n)*\\1\\}").matcher(code);
         int methods = 0;
